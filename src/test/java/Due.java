@@ -1,8 +1,14 @@
 /** Counts the answers that are not as due, and tells the line of each. */
 final class Due {
     private static int wrong = 0;
+    private static String sentence = "";
 
     private Due() {
+    }
+
+    /** Names the sentence of the document that the answers from here on are due by. */
+    static void by(String words) {
+        sentence = words;
     }
 
     /** Compares an answer with the one that is due. */
@@ -15,7 +21,7 @@ final class Due {
     /** Counts a fault and tells it with the line of the test that found it. */
     static void tell(String fault) {
         wrong++;
-        System.out.println(callers() + ": " + fault);
+        System.out.println(callers() + ": " + fault + (sentence.isEmpty() ? "" : " by \"" + sentence + "\""));
     }
 
     /** Ends the program with exit code 1 if there was a fault. */

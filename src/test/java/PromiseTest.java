@@ -8,8 +8,8 @@ public final class PromiseTest {
     private static final int NO_ROOM = ProcessHeaps.NO_ROOM;
     private static final int NOT_SO = ProcessHeaps.NOT_SO;
 
-    private static final int[] NO_PROCESS = {-1, 3, 4, Integer.MIN_VALUE, Integer.MAX_VALUE};
-    private static final int[] NO_REGISTER = {-1, 4, 7, Integer.MIN_VALUE, Integer.MAX_VALUE};
+    private static final int[] NO_PROCESS = Steps.NO_PROCESS;
+    private static final int[] NO_REGISTER = Steps.NO_REGISTER;
 
     private PromiseTest() {
     }
@@ -52,28 +52,6 @@ public final class PromiseTest {
         Due.due(want, got);
     }
 
-    private static void term(ProcessHeaps x, int process, int register, int kind, int value) {
-        due(kind, x.kind(process, register));
-        due(value, x.value(process, register));
-    }
-
-    /** Makes the register a chain of that many pairs, each head and tail of the next. */
-    private static void chain(ProcessHeaps x, int process, int register, int length) {
-        due(0, x.nil(process, register));
-        for (int i = 0; i < length; i++) {
-            due(0, x.pair(process, register, register, register));
-        }
-    }
-
-    /** Makes that many pairs that nothing reaches; uses the register. */
-    private static void litter(ProcessHeaps x, int process, int register, int count) {
-        for (int i = 0; i < count; i++) {
-            due(0, x.nil(process, register));
-            due(0, x.pair(process, register, register, register));
-        }
-        due(0, x.nil(process, register));
-    }
-
     private static void constants() {
         due(0, NIL);
         due(1, NUMBER);
@@ -93,7 +71,7 @@ public final class PromiseTest {
         due(0, x.blobs());
         for (int process = 0; process < 3; process++) {
             for (int register = 0; register < 4; register++) {
-                term(x, process, register, NIL, 0);
+                Steps.term(x, process, register, NIL, 0);
             }
             due(0, x.pairs(process));
             due(NOT_SO, x.receive(process, 0));
@@ -109,38 +87,38 @@ public final class PromiseTest {
         for (int number : numbers) {
             for (int process = 0; process < 3; process++) {
                 due(0, x.number(process, 3, number));
-                term(x, process, 3, NUMBER, number);
+                Steps.term(x, process, 3, NUMBER, number);
             }
         }
-        term(x, 0, 2, NIL, 0);
+        Steps.term(x, 0, 2, NIL, 0);
         due(0, x.blob(0, 0));
         due(0, x.pair(0, 1, 3, 3));
         due(0, x.number(0, 0, 5));
         due(0, x.blobs());
         due(0, x.number(0, 1, 6));
         due(1, x.pairs(0));
-        term(x, 0, 0, NUMBER, 5);
-        term(x, 0, 1, NUMBER, 6);
+        Steps.term(x, 0, 0, NUMBER, 5);
+        Steps.term(x, 0, 1, NUMBER, 6);
         for (int process : NO_PROCESS) {
             due(BAD, x.number(process, 0, 9));
         }
         for (int register : NO_REGISTER) {
             due(BAD, x.number(0, register, 9));
         }
-        term(x, 0, 0, NUMBER, 5);
-        term(x, 0, 3, NUMBER, Integer.MIN_VALUE);
-        term(x, 1, 0, NIL, 0);
+        Steps.term(x, 0, 0, NUMBER, 5);
+        Steps.term(x, 0, 3, NUMBER, Integer.MIN_VALUE);
+        Steps.term(x, 1, 0, NIL, 0);
     }
 
     private static void promise3Move() {
         ProcessHeaps x = new ProcessHeaps();
         due(0, x.number(1, 0, 42));
         due(0, x.move(1, 1, 0));
-        term(x, 1, 1, NUMBER, 42);
-        term(x, 1, 0, NUMBER, 42);
+        Steps.term(x, 1, 1, NUMBER, 42);
+        Steps.term(x, 1, 0, NUMBER, 42);
         due(0, x.move(1, 0, 3));
-        term(x, 1, 0, NIL, 0);
-        term(x, 1, 1, NUMBER, 42);
+        Steps.term(x, 1, 0, NIL, 0);
+        Steps.term(x, 1, 1, NUMBER, 42);
         due(0, x.pair(1, 2, 1, 1));
         due(0, x.move(1, 3, 2));
         due(1, x.same(1, 2, 3));
@@ -148,11 +126,11 @@ public final class PromiseTest {
         due(0, x.blob(1, 0));
         due(0, x.move(1, 0, 0));
         due(1, x.blobs());
-        term(x, 1, 0, BLOB, 0);
+        Steps.term(x, 1, 0, BLOB, 0);
         due(1, x.blob(1, 1));
         due(0, x.move(1, 0, 1));
         due(1, x.blobs());
-        term(x, 1, 0, BLOB, 1);
+        Steps.term(x, 1, 0, BLOB, 1);
         due(0, x.move(1, 1, 3));
         due(1, x.blobs());
         due(0, x.move(1, 0, 3));
@@ -165,18 +143,18 @@ public final class PromiseTest {
             due(BAD, x.move(1, register, 0));
             due(BAD, x.move(1, 0, register));
         }
-        term(x, 1, 0, NUMBER, 8);
+        Steps.term(x, 1, 0, NUMBER, 8);
     }
 
     private static void promise4Nil() {
         ProcessHeaps x = new ProcessHeaps();
         due(0, x.nil(2, 0));
-        term(x, 2, 0, NIL, 0);
+        Steps.term(x, 2, 0, NIL, 0);
         due(0, x.number(2, 0, 4));
         due(0, x.number(2, 1, 5));
         due(0, x.nil(2, 0));
-        term(x, 2, 0, NIL, 0);
-        term(x, 2, 1, NUMBER, 5);
+        Steps.term(x, 2, 0, NIL, 0);
+        Steps.term(x, 2, 1, NUMBER, 5);
         due(1, x.same(2, 0, 2));
         due(0, x.blob(2, 3));
         due(0, x.nil(2, 3));
@@ -190,7 +168,7 @@ public final class PromiseTest {
         for (int register : NO_REGISTER) {
             due(BAD, x.nil(2, register));
         }
-        term(x, 2, 1, NUMBER, 5);
+        Steps.term(x, 2, 1, NUMBER, 5);
     }
 
     private static void promise5Blob() {
@@ -199,7 +177,7 @@ public final class PromiseTest {
         due(1, x.blob(1, 0));
         due(2, x.blob(2, 0));
         due(3, x.blob(0, 1));
-        term(x, 0, 1, BLOB, 3);
+        Steps.term(x, 0, 1, BLOB, 3);
         due(0, x.nil(1, 0));
         due(1, x.blob(0, 2));
         // the only holder of its blob gets the same id again, or a lesser one that is free
@@ -207,7 +185,7 @@ public final class PromiseTest {
         due(4, x.blobs());
         due(0, x.nil(0, 0));
         due(0, x.blob(0, 1));
-        term(x, 0, 1, BLOB, 0);
+        Steps.term(x, 0, 1, BLOB, 0);
         due(3, x.blobs());
         due(3, x.blob(0, 0));
         // a blob that a pair holds too stays
@@ -232,12 +210,12 @@ public final class PromiseTest {
         due(6, x.blobs());
         // five of the blobs are held by pairs that nothing reaches: blob doesn't collect
         due(NO_ROOM, x.blob(0, 0));
-        term(x, 0, 0, BLOB, 5);
+        Steps.term(x, 0, 0, BLOB, 5);
         due(NO_ROOM, x.blob(2, 3));
-        term(x, 2, 3, NIL, 0);
+        Steps.term(x, 2, 3, NIL, 0);
         due(0, x.number(1, 1, 77));
         due(NO_ROOM, x.blob(1, 1));
-        term(x, 1, 1, NUMBER, 77);
+        Steps.term(x, 1, 1, NUMBER, 77);
         due(NO_ROOM, x.blob(0, 1));
         due(PAIR, x.kind(0, 1));
         due(6, x.pairs(0));
@@ -257,7 +235,7 @@ public final class PromiseTest {
         due(6, x.blobs());
         due(0, x.send(0, 0, 2));
         due(NO_ROOM, x.blob(0, 0));
-        term(x, 0, 0, BLOB, 5);
+        Steps.term(x, 0, 0, BLOB, 5);
         due(2, x.blob(1, 2));
     }
 
@@ -270,9 +248,9 @@ public final class PromiseTest {
         due(1, x.pairs(0));
         due(0, x.pairs(1));
         due(0, x.part(0, 3, 2, true));
-        term(x, 0, 3, NUMBER, 3);
+        Steps.term(x, 0, 3, NUMBER, 3);
         due(0, x.part(0, 3, 2, false));
-        term(x, 0, 3, BLOB, 0);
+        Steps.term(x, 0, 3, BLOB, 0);
         // a pair of equal parts is a new one each time
         due(0, x.pair(0, 3, 0, 1));
         due(0, x.same(0, 2, 3));
@@ -303,8 +281,8 @@ public final class PromiseTest {
         ProcessHeaps x = new ProcessHeaps();
         due(0, x.blob(1, 0));
         due(0, x.pair(1, 0, 0, 0));
-        litter(x, 2, 0, 3);
-        litter(x, 1, 0, 18);
+        Steps.litter(x, 2, 0, 3);
+        Steps.litter(x, 1, 0, 18);
         due(19, x.pairs(1));
         due(0, x.pair(1, 1, 0, 0));
         // nothing is collected as long as there is room
@@ -318,11 +296,11 @@ public final class PromiseTest {
         due(1, x.same(1, 3, 1));
         // what dst and the mailbox hold is reached while room is made
         due(0, x.restart(1));
-        chain(x, 1, 0, 2);
-        chain(x, 1, 1, 3);
+        Steps.chain(x, 1, 0, 2);
+        Steps.chain(x, 1, 1, 3);
         due(0, x.send(1, 1, 1));
         due(0, x.nil(1, 1));
-        litter(x, 1, 3, 12);
+        Steps.litter(x, 1, 3, 12);
         due(20, x.pairs(1));
         due(0, x.pair(1, 0, 3, 3));
         due(6, x.pairs(1));
@@ -331,12 +309,12 @@ public final class PromiseTest {
 
     private static void promise6PairNoRoom() {
         ProcessHeaps x = new ProcessHeaps();
-        litter(x, 0, 0, 5);
-        chain(x, 0, 0, 20);
+        Steps.litter(x, 0, 0, 5);
+        Steps.chain(x, 0, 0, 20);
         due(20, x.pairs(0));
         due(0, x.number(0, 1, 1));
         due(NO_ROOM, x.pair(0, 1, 1, 1));
-        term(x, 0, 1, NUMBER, 1);
+        Steps.term(x, 0, 1, NUMBER, 1);
         // dst still holds the pairs when room is made
         due(NO_ROOM, x.pair(0, 0, 1, 1));
         due(PAIR, x.kind(0, 0));
@@ -359,14 +337,14 @@ public final class PromiseTest {
         due(0, x.part(2, 3, 2, true));
         due(1, x.same(2, 3, 1));
         due(0, x.part(2, 3, 2, false));
-        term(x, 2, 3, NUMBER, 10);
+        Steps.term(x, 2, 3, NUMBER, 10);
         due(0, x.part(2, 3, 1, false));
-        term(x, 2, 3, NIL, 0);
+        Steps.term(x, 2, 3, NIL, 0);
         due(0, x.part(2, 2, 2, true));
         due(1, x.same(2, 2, 1));
         due(2, x.pairs(2));
         due(0, x.part(2, 2, 2, true));
-        term(x, 2, 2, NUMBER, 10);
+        Steps.term(x, 2, 2, NUMBER, 10);
         due(NOT_SO, x.part(2, 1, 2, true));
         due(NOT_SO, x.part(2, 1, 3, false));
         due(PAIR, x.kind(2, 1));
@@ -376,7 +354,7 @@ public final class PromiseTest {
         // the pair holds the blob when the register doesn't
         due(0, x.pair(2, 3, 0, 3));
         due(0, x.part(2, 3, 3, false));
-        term(x, 2, 3, BLOB, 0);
+        Steps.term(x, 2, 3, BLOB, 0);
         due(0, x.part(2, 3, 1, true));
         due(1, x.blobs());
         due(1, x.collect(2));
@@ -390,7 +368,7 @@ public final class PromiseTest {
             due(BAD, x.part(2, register, 0, true));
             due(BAD, x.part(2, 0, register, false));
         }
-        term(x, 2, 0, NUMBER, 10);
+        Steps.term(x, 2, 0, NUMBER, 10);
     }
 
     private static void promise8SendCopies() {
@@ -409,12 +387,12 @@ public final class PromiseTest {
         due(1, x.blobs());
         due(0, x.receive(2, 3));
         due(0, x.part(2, 0, 3, false));
-        term(x, 2, 0, NUMBER, -5);
+        Steps.term(x, 2, 0, NUMBER, -5);
         due(0, x.part(2, 1, 3, true));
         due(0, x.part(2, 0, 1, true));
-        term(x, 2, 0, NUMBER, -5);
+        Steps.term(x, 2, 0, NUMBER, -5);
         due(0, x.part(2, 0, 1, false));
-        term(x, 2, 0, BLOB, 1);
+        Steps.term(x, 2, 0, BLOB, 1);
         for (int process : NO_PROCESS) {
             due(BAD, x.send(process, 0, 1));
             due(BAD, x.send(2, 0, process));
@@ -428,7 +406,7 @@ public final class PromiseTest {
     private static void promise8SendKeepsSharing() {
         ProcessHeaps x = new ProcessHeaps();
         // 20 pairs with a million ways through them
-        chain(x, 0, 0, 20);
+        Steps.chain(x, 0, 0, 20);
         due(0, x.send(0, 0, 1));
         due(20, x.pairs(1));
         due(0, x.receive(1, 0));
@@ -438,7 +416,7 @@ public final class PromiseTest {
             due(1, x.same(1, 1, 2));
             due(0, x.part(1, 0, 0, i % 2 == 0));
         }
-        term(x, 1, 0, NIL, 0);
+        Steps.term(x, 1, 0, NIL, 0);
         // equal pairs that are not the same stay different ones
         due(0, x.pair(2, 0, 3, 3));
         due(0, x.pair(2, 1, 3, 3));
@@ -475,21 +453,21 @@ public final class PromiseTest {
         due(0, x.part(1, 1, 1, true));
         due(0, x.part(1, 2, 2, true));
         due(1, x.same(1, 1, 2));
-        term(x, 1, 2, BLOB, 0);
+        Steps.term(x, 1, 2, BLOB, 0);
     }
 
     private static void promise8SendToItselfMakesRoom() {
         ProcessHeaps x = new ProcessHeaps();
-        litter(x, 0, 0, 4);
+        Steps.litter(x, 0, 0, 4);
         due(0, x.number(0, 0, 1));
         due(0, x.pair(0, 1, 0, 0));
-        litter(x, 0, 3, 5);
+        Steps.litter(x, 0, 3, 5);
         due(0, x.number(0, 0, 2));
         due(0, x.pair(0, 1, 1, 0));
-        litter(x, 0, 3, 5);
+        Steps.litter(x, 0, 3, 5);
         due(0, x.number(0, 0, 3));
         due(0, x.pair(0, 1, 0, 1));
-        litter(x, 0, 3, 1);
+        Steps.litter(x, 0, 3, 1);
         due(18, x.pairs(0));
         due(0, x.send(0, 1, 0));
         due(6, x.pairs(0));
@@ -497,21 +475,21 @@ public final class PromiseTest {
         due(3, x.collect(0));
         due(0, x.receive(0, 1));
         due(0, x.part(0, 0, 1, true));
-        term(x, 0, 0, NUMBER, 3);
+        Steps.term(x, 0, 0, NUMBER, 3);
         due(0, x.part(0, 1, 1, false));
         due(0, x.part(0, 0, 1, false));
-        term(x, 0, 0, NUMBER, 2);
+        Steps.term(x, 0, 0, NUMBER, 2);
         due(0, x.part(0, 1, 1, true));
         due(0, x.part(0, 0, 1, true));
-        term(x, 0, 0, NUMBER, 1);
+        Steps.term(x, 0, 0, NUMBER, 1);
         // 10 pairs are sent once, 11 are not
         due(0, x.restart(0));
-        chain(x, 0, 0, 10);
+        Steps.chain(x, 0, 0, 10);
         due(0, x.send(0, 0, 0));
         due(20, x.pairs(0));
         due(NO_ROOM, x.send(0, 0, 0));
         due(0, x.restart(0));
-        chain(x, 0, 0, 11);
+        Steps.chain(x, 0, 0, 11);
         due(NO_ROOM, x.send(0, 0, 0));
         due(11, x.pairs(0));
         due(NOT_SO, x.receive(0, 1));
@@ -522,8 +500,8 @@ public final class PromiseTest {
         due(0, x.send(0, 0, 1));
         due(0, x.send(0, 0, 1));
         due(0, x.send(0, 0, 1));
-        litter(x, 1, 0, 20);
-        chain(x, 0, 0, 2);
+        Steps.litter(x, 1, 0, 20);
+        Steps.chain(x, 0, 0, 2);
         due(NOT_SO, x.send(0, 0, 1));
         due(20, x.pairs(1));
         due(NOT_SO, x.send(1, 0, 1));
@@ -539,22 +517,22 @@ public final class PromiseTest {
 
     private static void promise8SendMakesRoom() {
         ProcessHeaps x = new ProcessHeaps();
-        chain(x, 0, 0, 3);
-        litter(x, 0, 3, 4);
-        litter(x, 1, 0, 17);
+        Steps.chain(x, 0, 0, 3);
+        Steps.litter(x, 0, 3, 4);
+        Steps.litter(x, 1, 0, 17);
         due(0, x.send(0, 0, 1));
         due(20, x.pairs(1));
         due(0, x.send(0, 0, 1));
         due(6, x.pairs(1));
         due(7, x.pairs(0));
-        litter(x, 1, 0, 12);
+        Steps.litter(x, 1, 0, 12);
         due(18, x.pairs(1));
         due(0, x.send(0, 0, 1));
         due(9, x.pairs(1));
         // a term of 20 pairs needs a heap that nothing is reached in
         due(0, x.restart(1));
-        chain(x, 0, 0, 20);
-        litter(x, 1, 0, 1);
+        Steps.chain(x, 0, 0, 20);
+        Steps.litter(x, 1, 0, 1);
         due(0, x.send(0, 0, 1));
         due(20, x.pairs(1));
         due(0, x.restart(1));
@@ -568,17 +546,17 @@ public final class PromiseTest {
         due(0, x.blob(2, 0));
         due(0, x.pair(2, 0, 0, 0));
         due(0, x.number(2, 0, 5));
-        chain(x, 2, 1, 18);
+        Steps.chain(x, 2, 1, 18);
         due(19, x.pairs(2));
-        litter(x, 1, 0, 2);
-        chain(x, 1, 0, 3);
+        Steps.litter(x, 1, 0, 2);
+        Steps.chain(x, 1, 0, 3);
         due(1, x.blobs());
         due(NO_ROOM, x.send(1, 0, 2));
         // the process that would have got the term has been collected, and only that one
         due(18, x.pairs(2));
         due(5, x.pairs(1));
         due(0, x.blobs());
-        term(x, 2, 0, NUMBER, 5);
+        Steps.term(x, 2, 0, NUMBER, 5);
         due(PAIR, x.kind(1, 0));
         due(NOT_SO, x.receive(2, 0));
         due(0, x.part(1, 0, 0, true));
@@ -590,7 +568,7 @@ public final class PromiseTest {
 
     private static void promise8SendWithoutPairs() {
         ProcessHeaps x = new ProcessHeaps();
-        litter(x, 1, 0, 20);
+        Steps.litter(x, 1, 0, 20);
         due(0, x.send(0, 0, 1));
         due(0, x.number(0, 0, 9));
         due(0, x.send(0, 0, 1));
@@ -600,11 +578,11 @@ public final class PromiseTest {
         due(0, x.nil(0, 0));
         due(1, x.blobs());
         due(0, x.receive(1, 0));
-        term(x, 1, 0, NIL, 0);
+        Steps.term(x, 1, 0, NIL, 0);
         due(0, x.receive(1, 0));
-        term(x, 1, 0, NUMBER, 9);
+        Steps.term(x, 1, 0, NUMBER, 9);
         due(0, x.receive(1, 0));
-        term(x, 1, 0, BLOB, 0);
+        Steps.term(x, 1, 0, BLOB, 0);
         due(20, x.pairs(1));
     }
 
@@ -612,7 +590,7 @@ public final class PromiseTest {
         ProcessHeaps x = new ProcessHeaps();
         due(0, x.number(0, 0, 50));
         due(NOT_SO, x.receive(0, 0));
-        term(x, 0, 0, NUMBER, 50);
+        Steps.term(x, 0, 0, NUMBER, 50);
         // first in, first out, through more terms than the mailbox holds
         due(0, x.send(0, 0, 2));
         for (int i = 51; i < 60; i++) {
@@ -621,11 +599,11 @@ public final class PromiseTest {
             due(0, x.send(1, 2, 2));
             due(NOT_SO, x.send(1, 3, 2));
             due(0, x.receive(2, 1));
-            term(x, 2, 1, NUMBER, i - 1);
+            Steps.term(x, 2, 1, NUMBER, i - 1);
             due(0, x.receive(2, 1));
-            term(x, 2, 1, NUMBER, i);
+            Steps.term(x, 2, 1, NUMBER, i);
             due(0, x.receive(2, 1));
-            term(x, 2, 1, NIL, 0);
+            Steps.term(x, 2, 1, NIL, 0);
             due(NOT_SO, x.receive(2, 1));
             due(0, x.send(1, 3, 2));
         }
@@ -639,7 +617,7 @@ public final class PromiseTest {
             due(BAD, x.receive(0, register));
         }
         due(0, x.receive(2, 0));
-        term(x, 2, 0, NUMBER, 59);
+        Steps.term(x, 2, 0, NUMBER, 59);
     }
 
     private static void promise9ReceiveBlob() {
@@ -654,19 +632,19 @@ public final class PromiseTest {
         due(1, x.blobs());
         // the blob goes from the mailbox to the register and is never let go
         due(0, x.receive(0, 2));
-        term(x, 0, 2, BLOB, 0);
+        Steps.term(x, 0, 2, BLOB, 0);
         due(1, x.blobs());
         // the same blob is in the mailbox and in dst
         due(0, x.send(0, 2, 0));
         due(0, x.receive(0, 2));
-        term(x, 0, 2, BLOB, 0);
+        Steps.term(x, 0, 2, BLOB, 0);
         due(1, x.blobs());
         // dst lets another blob go
         due(0, x.send(0, 2, 0));
         due(1, x.blob(0, 2));
         due(2, x.blobs());
         due(0, x.receive(0, 2));
-        term(x, 0, 2, BLOB, 0);
+        Steps.term(x, 0, 2, BLOB, 0);
         due(1, x.blobs());
         // a place of the mailbox that is empty again holds nothing
         due(0, x.nil(0, 2));
@@ -683,8 +661,8 @@ public final class PromiseTest {
         due(0, x.pair(0, 3, 0, 2));
         due(0, x.number(0, 0, 3));
         due(0, x.pair(0, 3, 0, 3));
-        litter(x, 0, 1, 2);
-        litter(x, 1, 1, 2);
+        Steps.litter(x, 0, 1, 2);
+        Steps.litter(x, 1, 1, 2);
         due(0, x.nil(0, 2));
         due(5, x.pairs(0));
         due(3, x.collect(0));
@@ -693,13 +671,13 @@ public final class PromiseTest {
         due(1, x.blobs());
         due(3, x.collect(0));
         // what is reached is as it was, after the slots of the others have been used anew
-        litter(x, 0, 1, 17);
+        Steps.litter(x, 0, 1, 17);
         for (int i = 3; i > 0; i--) {
             due(0, x.part(0, 0, 3, true));
-            term(x, 0, 0, NUMBER, i);
+            Steps.term(x, 0, 0, NUMBER, i);
             due(0, x.part(0, 3, 3, false));
         }
-        term(x, 0, 3, BLOB, 0);
+        Steps.term(x, 0, 3, BLOB, 0);
         due(20, x.pairs(0));
         due(0, x.collect(0));
         due(1, x.blobs());
@@ -754,7 +732,7 @@ public final class PromiseTest {
         due(2, x.pairs(1));
         due(0, x.restart(1));
         for (int register = 0; register < 4; register++) {
-            term(x, 1, register, NIL, 0);
+            Steps.term(x, 1, register, NIL, 0);
         }
         due(0, x.pairs(1));
         due(NOT_SO, x.receive(1, 0));
@@ -763,26 +741,26 @@ public final class PromiseTest {
         due(1, x.pairs(0));
         due(0, x.receive(0, 0));
         due(0, x.part(0, 1, 0, false));
-        term(x, 0, 1, BLOB, 0);
+        Steps.term(x, 0, 1, BLOB, 0);
         due(0, x.receive(2, 0));
-        term(x, 2, 0, NUMBER, 6);
+        Steps.term(x, 2, 0, NUMBER, 6);
         // the mailbox and the heap are whole again
         due(0, x.number(2, 0, 61));
         due(0, x.send(2, 0, 1));
         due(0, x.send(2, 1, 1));
         due(0, x.send(2, 1, 1));
         due(0, x.receive(1, 0));
-        term(x, 1, 0, NUMBER, 61);
-        chain(x, 1, 1, 20);
+        Steps.term(x, 1, 0, NUMBER, 61);
+        Steps.chain(x, 1, 1, 20);
         due(0, x.restart(1));
-        chain(x, 1, 1, 20);
+        Steps.chain(x, 1, 1, 20);
         due(0, x.restart(0));
         due(0, x.blobs());
         for (int process : NO_PROCESS) {
             due(BAD, x.restart(process));
         }
         due(20, x.pairs(1));
-        term(x, 2, 0, NUMBER, 61);
+        Steps.term(x, 2, 0, NUMBER, 61);
     }
 
     private static void promise12Kind() {
@@ -934,7 +912,7 @@ public final class PromiseTest {
         due(0, x.blob(0, 1));
         due(0, x.pair(0, 2, 0, 1));
         due(0, x.send(0, 2, 0));
-        litter(x, 0, 3, 18);
+        Steps.litter(x, 0, 3, 18);
         for (int register : NO_REGISTER) {
             due(BAD, x.number(0, register, 3));
             due(BAD, x.move(0, register, 1));
@@ -957,11 +935,11 @@ public final class PromiseTest {
         due(20, x.pairs(0));
         due(0, x.pairs(1));
         due(1, x.blobs());
-        term(x, 0, 0, NUMBER, 1);
-        term(x, 0, 1, BLOB, 0);
-        term(x, 0, 2, PAIR, 0);
-        term(x, 0, 3, NIL, 0);
-        term(x, 1, 0, NIL, 0);
+        Steps.term(x, 0, 0, NUMBER, 1);
+        Steps.term(x, 0, 1, BLOB, 0);
+        Steps.term(x, 0, 2, PAIR, 0);
+        Steps.term(x, 0, 3, NIL, 0);
+        Steps.term(x, 1, 0, NIL, 0);
         due(0, x.receive(0, 3));
         due(PAIR, x.kind(0, 3));
         due(NOT_SO, x.receive(0, 3));
